@@ -4,6 +4,7 @@ public final class Promise05StepTest {
         locks();
         locksInNumberOrder();
         frees();
+        freesTheLowestAndTheHighest();
         takes();
         tellsTwoTakers();
         sends();
@@ -88,6 +89,16 @@ public final class Promise05StepTest {
         expectFault("a unit above 9", x, 3, 3);
     }
 
+    private static void freesTheLowestAndTheHighest() {
+        ServiceThreads x = new ServiceThreads();
+        Scene.program(x, 0, "lock 0; lock 9; free 0; free 9; lock 0; lock 9");
+        Scene.steps(x, "both", 0, 1, 1, 1, 1);
+        Check.same("none is locked", x.count(5), 0);
+        Scene.steps(x, "to its end", 0, Scene.DONE, Scene.DONE, Scene.END);
+        Check.same("its end frees unit 0", x.unit(0, 0), Scene.NOBODY);
+        Check.same("its end frees unit 9", x.unit(9, 0), Scene.NOBODY);
+    }
+
     private static void takes() {
         ServiceThreads x = new ServiceThreads();
         Scene.program(x, 0, "take 0; take 0; close 0; take 0");
@@ -139,6 +150,9 @@ public final class Promise05StepTest {
         Check.same("units sent", x.count(3), 2);
         Scene.steps(x, "freed", 0, Scene.DONE);
         Check.same("a freed unit stays sent", x.unit(9, 1), 0);
+        x.kill(0);
+        x.restart(0);
+        Check.same("a restart leaves it sent", x.unit(9, 1), 0);
     }
 
     private static void refusesToSend() {
@@ -191,6 +205,13 @@ public final class Promise05StepTest {
         Check.same("who had it when it was closed", x.callAt(0, 1), 0);
         Check.same("the unit is locked still", x.unit(2, 0), 0);
         Check.same("open calls", x.count(4), 0);
+        ServiceThreads y = new ServiceThreads();
+        Scene.program(y, 0, "lock 0; lock 9; take 0; take 1; send 0 0; send 9 1; close 0; close 1");
+        y.call(0);
+        y.call(0);
+        Check.same("the lowest and the highest unit", y.run(0L, 8), 8);
+        Check.same("unit 0 is not sent any more", y.unit(0, 1), Scene.NOBODY);
+        Check.same("unit 9 is not sent any more", y.unit(9, 1), Scene.NOBODY);
     }
 
     private static void refusesToClose() {
@@ -242,7 +263,6 @@ public final class Promise05StepTest {
         x.call(0);
         x.run(0x11L, 2);
         x.run(0L, 7);
-        x.finish(2, 0);
         Check.same("units locked ahead of it", x.thread(0, 3), 2);
         expectFault("a fault", x, 0, 5);
         Check.same("its locks are freed", x.thread(0, 3), 0);
