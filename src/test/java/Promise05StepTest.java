@@ -19,17 +19,6 @@ public final class Promise05StepTest {
         Check.end();
     }
 
-    private static void expectFault(String name, ServiceThreads x, int thread, int fault) {
-        int act = x.thread(thread, 1);
-        Check.same(name + ": answer", x.step(thread), Scene.FAULT);
-        Check.same(name + ": fault", x.thread(thread, 2), fault);
-        int row = x.count(1) - 1;
-        Check.same(name + ": the row's thread", x.row(row, 0), thread);
-        Check.same(name + ": the row's fault", x.row(row, 1), fault);
-        Check.same(name + ": the row's act", x.row(row, 2), act);
-        Check.same(name + ": the row's turn", x.row(row, 3), x.count(0));
-    }
-
     private static void locks() {
         ServiceThreads x = new ServiceThreads();
         Scene.program(x, 0, "lock 0; lock 9");
@@ -46,29 +35,29 @@ public final class Promise05StepTest {
         Check.same("unit 9 then", x.unit(9, 0), 1);
         ServiceThreads y = new ServiceThreads();
         Scene.program(y, 0, "lock 10");
-        expectFault("a unit above 9", y, 0, 3);
+        Scene.fault(y, "a unit above 9", 0, 3);
         ServiceThreads z = new ServiceThreads();
         Scene.program(z, 0, "lock 255");
-        expectFault("the highest number", z, 0, 3);
+        Scene.fault(z, "the highest number", 0, 3);
     }
 
     private static void locksInNumberOrder() {
         ServiceThreads x = new ServiceThreads();
         Scene.program(x, 0, "lock 4; lock 4");
         x.step(0);
-        expectFault("one that it has", x, 0, 1);
+        Scene.fault(x, "one that it has", 0, 1);
         Check.same("its locks are freed", x.unit(4, 0), Scene.NOBODY);
         Scene.program(x, 1, "lock 3; lock 5; lock 3");
         Scene.steps(x, "two", 1, Scene.DONE, Scene.DONE);
-        expectFault("one that it has, below another", x, 1, 1);
+        Scene.fault(x, "one that it has, below another", 1, 1);
         Scene.program(x, 2, "lock 5; lock 4");
         x.step(2);
-        expectFault("a free one below", x, 2, 2);
+        Scene.fault(x, "a free one below", 2, 2);
         Scene.program(x, 3, "lock 1");
         Scene.program(x, 4, "lock 2; lock 1");
         x.step(3);
         x.step(4);
-        expectFault("one below that another has", x, 4, 2);
+        Scene.fault(x, "one below that another has", 4, 2);
         Check.same("another's lock stays", x.unit(1, 0), 3);
         Scene.program(x, 5, "lock 6; lock 7; free 7; free 6; lock 6");
         Scene.steps(x, "freed ones do not count", 5, 1, 1, 1, 1, 1);
@@ -79,14 +68,14 @@ public final class Promise05StepTest {
         Scene.program(x, 0, "lock 4; free 4; free 4");
         Scene.steps(x, "its own", 0, Scene.DONE, Scene.DONE);
         Check.same("nobody has it", x.unit(4, 0), Scene.NOBODY);
-        expectFault("one that nobody has", x, 0, 3);
+        Scene.fault(x, "one that nobody has", 0, 3);
         Scene.program(x, 1, "lock 4");
         Scene.program(x, 2, "free 4");
         x.step(1);
-        expectFault("another's", x, 2, 3);
+        Scene.fault(x, "another's", 2, 3);
         Check.same("another's stays", x.unit(4, 0), 1);
         Scene.program(x, 3, "free 10");
-        expectFault("a unit above 9", x, 3, 3);
+        Scene.fault(x, "a unit above 9", 3, 3);
     }
 
     private static void freesTheLowestAndTheHighest() {
@@ -108,9 +97,9 @@ public final class Promise05StepTest {
         Scene.steps(x, "one that nobody has, then its own", 0, Scene.DONE, Scene.DONE);
         Check.same("it has it", x.callAt(0, 1), 0);
         x.step(0);
-        expectFault("its own, closed", x, 0, 6);
-        expectFault("none such", x, 1, 6);
-        expectFault("none such, by far", x, 2, 6);
+        Scene.fault(x, "its own, closed", 0, 6);
+        Scene.fault(x, "none such", 1, 6);
+        Scene.fault(x, "none such, by far", 2, 6);
     }
 
     private static void tellsTwoTakers() {
@@ -173,8 +162,8 @@ public final class Promise05StepTest {
         x.call(0);
         x.call(0);
         x.run(0x2100L, 4);
-        expectFault("another has the call", x, 1, 4);
-        expectFault("another has the unit", x, 2, 4);
+        Scene.fault(x, "another has the call", 1, 4);
+        Scene.fault(x, "another has the unit", 2, 4);
         Check.same("nothing is sent", x.count(3), 0);
     }
 
@@ -186,7 +175,7 @@ public final class Promise05StepTest {
         int before = acts.split(";").length - 1;
         Check.same(name + ": acts ahead of it", x.run(0L, before), before);
         int sent = x.count(3);
-        expectFault(name, x, 0, 4);
+        Scene.fault(x, name, 0, 4);
         Check.same(name + ": units sent", x.count(3), sent);
     }
 
@@ -225,12 +214,12 @@ public final class Promise05StepTest {
         x.call(0);
         x.call(0);
         x.run(0L, 2);
-        expectFault("a closed one", x, 0, 4);
-        expectFault("one that nobody has", x, 1, 4);
+        Scene.fault(x, "a closed one", 0, 4);
+        Scene.fault(x, "one that nobody has", 1, 4);
         x.step(2);
-        expectFault("another's", x, 3, 4);
-        expectFault("none such", x, 4, 4);
-        expectFault("none such, by far", x, 5, 4);
+        Scene.fault(x, "another's", 3, 4);
+        Scene.fault(x, "none such", 4, 4);
+        Scene.fault(x, "none such, by far", 5, 4);
         Check.same("call 1 is open", x.callAt(1, 3), 1);
     }
 
@@ -250,7 +239,7 @@ public final class Promise05StepTest {
     private static void fails() {
         ServiceThreads x = new ServiceThreads();
         Scene.program(x, 0, "fail 255");
-        expectFault("fail", x, 0, 5);
+        Scene.fault(x, "fail", 0, 5);
     }
 
     private static void faultsUndo() {
@@ -264,7 +253,7 @@ public final class Promise05StepTest {
         x.run(0x11L, 2);
         x.run(0L, 7);
         Check.same("units locked ahead of it", x.thread(0, 3), 2);
-        expectFault("a fault", x, 0, 5);
+        Scene.fault(x, "a fault", 0, 5);
         Check.same("its locks are freed", x.thread(0, 3), 0);
         Check.same("a call without a unit", x.callAt(0, 1), Scene.NOBODY);
         Check.same("a call with a unit stays", x.callAt(1, 1), 0);

@@ -32,10 +32,41 @@ final class Scene {
         }
     }
 
+    static void calls(ServiceThreads x, int... ranks) {
+        for (int rank : ranks) {
+            x.call(rank);
+        }
+    }
+
+    /** Just below, just above and far outside of low .. high. */
+    static int[] outside(int low, int high) {
+        return new int[] {low - 1, high + 1, Integer.MIN_VALUE, Integer.MAX_VALUE};
+    }
+
     static void steps(ServiceThreads x, String name, int thread, int... due) {
         for (int i = 0; i < due.length; i++) {
             Check.same(name + ": step " + i + " of thread " + thread, x.step(thread), due[i]);
         }
+    }
+
+    /** The thread's turn has this fault, and the latest row tells it. */
+    static void fault(ServiceThreads x, String name, int thread, int fault) {
+        int act = x.thread(thread, 1);
+        Check.same(name + ": answer", x.step(thread), FAULT);
+        Check.same(name + ": fault", x.thread(thread, 2), fault);
+        latestRow(x, name, thread, fault, act);
+    }
+
+    static void latestRow(ServiceThreads x, String name, int thread, int fault, int act) {
+        int row = x.count(1) - 1;
+        if (row < 0) {
+            Check.same(name + ": rows", row + 1, "one or more");
+            return;
+        }
+        Check.same(name + ": the row's thread", x.row(row, 0), thread);
+        Check.same(name + ": the row's fault", x.row(row, 1), fault);
+        Check.same(name + ": the row's act", x.row(row, 2), act);
+        Check.same(name + ": the row's turn", x.row(row, 3), x.count(0));
     }
 
     /** All that can be asked of an object; with many rows this takes some hundreds of calls. */
